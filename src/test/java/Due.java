@@ -1,0 +1,35 @@
+/** Counts the answers that are not the ones due, and ends the test with exit code 1 if there was one. */
+final class Due {
+    private final String test;
+    private int asked = 0;
+    private int wrong = 0;
+
+    Due(String test) {
+        this.test = test;
+    }
+
+    void is(String call, long got, long want) {
+        asked++;
+        if (got != want) {
+            wrong++;
+            if (wrong <= 50) {
+                System.out.println(test + ": " + call + " answered " + got + ", due is " + want);
+            }
+        }
+    }
+
+    void holds(String what, boolean held) {
+        is(what, held ? 1 : 0, 1);
+    }
+
+    boolean anyWrong() {
+        return wrong > 0;
+    }
+
+    void end() {
+        System.out.println(test + ": " + asked + " asked, " + wrong + " wrong");
+        if (wrong > 0 || asked == 0) {
+            System.exit(1);
+        }
+    }
+}
