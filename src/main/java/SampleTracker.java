@@ -30,6 +30,8 @@ public final class SampleTracker {
     private static final int MOST_BYTES = 2048;
     private static final int HEAD_BYTES = 9;
     private static final int LEAST_RECORD_BYTES = 8;
+    private static final int KEPT_BYTES = 19;
+    private static final int LOST_BYTES = 16;
     private static final int MOST_RECORDS = MOST_BYTES / LEAST_RECORD_BYTES;
     private static final int CLOSING_BYTES = 5;
     private static final int CLOSING_MARK = 165;
@@ -96,11 +98,9 @@ public final class SampleTracker {
         if (!journal.otherBankHolds(table.sampleCount())) {
             return NO_ROOM;
         }
-        journal.writeAnew(table, entry);
-        if (!power.isUp()) {
+        if (!journal.writeAnew(table, entry)) {
             return POWER_DOWN;
         }
-        journal.takeOtherBank();
         table.forgetPast();
         return 0;
     }
@@ -261,28 +261,19 @@ public final class SampleTracker {
             cutWaits = false;
         }
 
-        /** Asked ahead of each byte: a cut behind 0 bytes fails here, and not before. */
-        boolean letsByteThrough() {
-            if (up && cutWaits && bytesLeft == 0) {
-                fail();
+        /** A cut behind 0 bytes waits for the next byte; any other one fails as soon as its last byte is through. */
+        boolean letByteThrough() {
+            boolean through = up && !(cutWaits && bytesLeft == 0);
+            if (through) {
+                written++;
+                bytesLeft -= cutWaits ? 1 : 0;
             }
-            return up;
-        }
-
-        void byteWasWritten() {
-            written++;
-            if (cutWaits) {
-                bytesLeft--;
-                if (bytesLeft == 0) {
-                    fail();
-                }
+            if (cutWaits && bytesLeft == 0) {
+                up = false;
+                cutWaits = false;
+                failed++;
             }
-        }
-
-        private void fail() {
-            up = false;
-            cutWaits = false;
-            failed++;
+            return through;
         }
     }
 
@@ -435,7 +426,8 @@ public final class SampleTracker {
         void writeHead(int generation) {
             crc = Crc.BEGIN;
             writeNumber(generation, 4);
-            close();
+            writeNumber(Crc.end(crc), 4);
+            writeByte(CLOSING_MARK);
         }
 
         void writeRecord(Entry entry) {
@@ -451,10 +443,6 @@ public final class SampleTracker {
             if (entry.hasVolume()) {
                 writeNumber(entry.volume, 8);
             }
-            close();
-        }
-
-        private void close() {
             writeNumber(Crc.end(crc), 4);
             writeByte(CLOSING_MARK);
         }
@@ -468,10 +456,9 @@ public final class SampleTracker {
         }
 
         private void writeByte(int octet) {
-            if (power.letsByteThrough()) {
+            if (power.letByteThrough()) {
                 bank.put(position, octet);
                 position++;
-                power.byteWasWritten();
             }
         }
     }
@@ -484,7 +471,6 @@ public final class SampleTracker {
         private final Pen pen;
         private int inUse = 0;
         private int end = HEAD_BYTES;
-        private int otherEnd = HEAD_BYTES;
 
         Journal(int size, Power itsPower) {
             power = itsPower;
@@ -520,7 +506,7 @@ public final class SampleTracker {
             return entry.length() <= bankBytes() - end;
         }
 
-        /** Whether the power outlived the RECORD's last byte. */
+        /** Tells whether the power outlived the RECORD's last byte. */
         boolean append(Entry entry) {
             pen.goTo(bank(inUse), end);
             pen.writeRecord(entry);
@@ -532,13 +518,11 @@ public final class SampleTracker {
         }
 
         boolean otherBankHolds(int samples) {
-            int lostBytes = LEAST_RECORD_BYTES + 8;
-            int keptBytes = LEAST_RECORD_BYTES + 11;
-            return HEAD_BYTES + lostBytes + samples * keptBytes <= bankBytes();
+            return HEAD_BYTES + LOST_BYTES + samples * KEPT_BYTES <= bankBytes();
         }
 
         /** The HEAD goes last, so that a copy that was cut short is never taken for the table. */
-        void writeAnew(Table table, Entry entry) {
+        boolean writeAnew(Table table, Entry entry) {
             Bank other = bank(1 - inUse);
             pen.goTo(other, 0);
             pen.writeZeros(other.size());
@@ -550,14 +534,15 @@ public final class SampleTracker {
                 entry.set(KEPT, table.parentOf(s), wellByte, table.volumeOf(s));
                 pen.writeRecord(entry);
             }
-            otherEnd = pen.position();
+            int otherEnd = pen.position();
             pen.goTo(other, 0);
             pen.writeHead(generation() + 1);
-        }
-
-        void takeOtherBank() {
+            if (!power.isUp()) {
+                return false;
+            }
             inUse = 1 - inUse;
             end = otherEnd;
+            return true;
         }
 
         void chooseBank() {
@@ -686,11 +671,11 @@ public final class SampleTracker {
             if (!isSample(eldest)) {
                 return NONE;
             }
-            long sum = volumes[eldest];
+            long sum = 0;
             for (int s = 1; s <= samples && s <= MOST_SAMPLES; s++) {
                 int parent = parentOf(s);
                 inFamily[s] = s == eldest || (isSample(parent) && inFamily[parent]);
-                sum += inFamily[s] && s != eldest ? volumes[s] : 0;
+                sum += inFamily[s] ? volumes[s] : 0;
             }
             return sum;
         }

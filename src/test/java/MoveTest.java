@@ -14,7 +14,8 @@ public final class MoveTest {
         DUE.is("move(1, 47)", x.move(1, 47), 0);
         DUE.is("move(1, 0)", x.move(1, 0), 0);
         DUE.is("and back", x.move(1, 3), 0);
-        Bytes.due(DUE, x, 0, Bytes.head(1), Bytes.register(3, 10), Bytes.move(1, 47), Bytes.move(1, 0), Bytes.move(1, 3));
+        Bytes.due(DUE, x, 0, Bytes.head(1), Bytes.register(3, 10), Bytes.move(1, 47), Bytes.move(1, 0),
+            Bytes.move(1, 3));
         DUE.is("well(3)", x.well(3), 1);
         DUE.is("well(47)", x.well(47), -1);
         DUE.is("well(0)", x.well(0), -1);

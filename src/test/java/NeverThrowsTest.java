@@ -1,6 +1,8 @@
 /** No call throws, whatever its arguments and whatever state the object is in, behind its 512th call too. */
 public final class NeverThrowsTest {
-    private static final int[] INTS = {Integer.MIN_VALUE, -1, 0, 1, 2, 47, 48, 119, 120, 121, 255, 2047, 2048, 65536, Integer.MAX_VALUE};
+    private static final int[] INTS = {
+        Integer.MIN_VALUE, -1, 0, 1, 2, 47, 48, 119, 120, 121, 255, 2047, 2048, 65536, Integer.MAX_VALUE
+    };
     private static final long[] LONGS = {Long.MIN_VALUE, -1, 0, 1, 2, 1L << 62, Long.MAX_VALUE};
     private static int calls = 0;
 

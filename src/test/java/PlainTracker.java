@@ -7,7 +7,7 @@ import java.util.List;
 import java.util.Set;
 import java.util.zip.CRC32;
 
-/** The document once more, as plainly as can be: it keeps only the bytes, and reads the table from them for each call. */
+/** The document once more, as plainly as can be: it keeps only the bytes, and reads them anew for each call. */
 final class PlainTracker {
     private final byte[][] banks;
     private boolean up = true;
@@ -124,7 +124,8 @@ final class PlainTracker {
     private static boolean right(byte[] bytes, int from, int length) {
         CRC32 crc = new CRC32();
         crc.update(bytes, from, length - 5);
-        return ByteBuffer.wrap(bytes).getInt(from + length - 5) == (int) crc.getValue() && (bytes[from + length - 1] & 255) == 165;
+        boolean checked = ByteBuffer.wrap(bytes).getInt(from + length - 5) == (int) crc.getValue();
+        return checked && (bytes[from + length - 1] & 255) == 165;
     }
 
     private void write(int bank, int from, byte[] what) {

@@ -3,7 +3,9 @@ import java.util.Random;
 /** Seeded runs of up to 512 calls, each answer compared with the plainer program's. */
 public final class RandomRunsTest {
     private static final int RUNS = 1500;
-    private static final int[] ODD = {Integer.MIN_VALUE, -1000, -2, -1, 0, 1, 47, 48, 64, 120, 121, 255, 256, 2048, Integer.MAX_VALUE};
+    private static final int[] ODD = {
+        Integer.MIN_VALUE, -1000, -2, -1, 0, 1, 47, 48, 64, 120, 121, 255, 256, 2048, Integer.MAX_VALUE
+    };
 
     private final Due due;
     private final int run;
