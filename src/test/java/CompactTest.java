@@ -82,8 +82,10 @@ public final class CompactTest {
                 DUE.holds("nothing changes", Look.all(x).equals(all));
             }
         }
+        DUE.is("three SAMPLES want 82 bytes", filled(82).compact(), 0);
+        DUE.is("and 81 are too few", filled(81).compact(), -6);
         SampleTracker down = filled(80);
-        DUE.is("three SAMPLES want 82 bytes", down.compact(), -6);
+        DUE.is("compact()", down.compact(), -6);
         down.cut(0);
         DUE.is("undo()", down.undo(), -1);
         DUE.is("down is told ahead of no room", down.compact(), -1);

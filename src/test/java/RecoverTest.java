@@ -9,6 +9,7 @@ public final class RecoverTest {
         withThePowerUp();
         behindEachByteOfEachAct();
         banksOfAnyAge();
+        chosenBank();
         fullBank();
         DUE.end();
     }
@@ -81,6 +82,22 @@ public final class RecoverTest {
         DUE.is("count(4)", x.count(4), 0);
         DUE.is("count(5)", x.count(5), 3);
         DUE.is("recover()", x.recover(), 5);
+    }
+
+    /** Both HEADs may be right, or one alone: the greater GENERATION of the right ones is in use. */
+    private static void chosenBank() {
+        SampleTracker x = begun();
+        for (int generation = 2; generation < 8; generation++) {
+            for (int n = 0; n <= 9; n++) {
+                x.cut(n);
+                DUE.is("compact() cut " + n, x.compact(), -1);
+                DUE.is("recover()", x.recover(), 5);
+                DUE.is("count(4)", x.count(4), (generation + 1) % 2);
+                DUE.is("count(5)", x.count(5), generation);
+                DUE.is("count(7)", x.count(7), 4);
+            }
+            DUE.is("compact()", x.compact(), 0);
+        }
     }
 
     private static void fullBank() {
