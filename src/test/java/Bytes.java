@@ -47,7 +47,7 @@ final class Bytes {
     }
 
     /** Compares a whole bank with what is due there. */
-    static void due(Due due, SampleTracker x, int bank, byte[]... parts) {
+    static void due(Due due, Lab x, int bank, byte[]... parts) {
         byte[] want = joined(x.count(1), parts);
         for (int i = 0; i < want.length; i++) {
             due.is("octet(" + bank + ", " + i + ")", x.octet(bank, i), want[i] & 255);

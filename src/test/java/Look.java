@@ -7,9 +7,10 @@ final class Look {
     }
 
     /** The table, as the answers tell it: nothing of the banks. */
-    static List<Long> table(SampleTracker x) {
+    static List<Long> table(Lab x) {
         List<Long> seen = new ArrayList<>();
-        for (int s = 0; s <= x.count(7) + 1; s++) {
+        int samples = x.count(7);
+        for (int s = 0; s <= samples + 1; s++) {
             for (int what = 0; what < 5; what++) {
                 seen.add((long) x.sample(s, what));
             }
@@ -28,23 +29,28 @@ final class Look {
         return seen;
     }
 
-    static List<Integer> bank(SampleTracker x, int bank) {
+    static List<Integer> bank(Lab x, int bank) {
         List<Integer> seen = new ArrayList<>();
-        for (int i = 0; i < x.count(1); i++) {
+        int bytes = x.count(1);
+        for (int i = 0; i < bytes; i++) {
             seen.add(x.octet(bank, i));
         }
         return seen;
     }
 
-    static List<Long> all(SampleTracker x) {
+    static List<Integer> banks(Lab x) {
+        List<Integer> seen = bank(x, 0);
+        seen.addAll(bank(x, 1));
+        return seen;
+    }
+
+    static List<Long> all(Lab x) {
         List<Long> seen = table(x);
         for (int what = 0; what < 7; what++) {
             seen.add((long) x.count(what));
         }
-        for (int bank = 0; bank < 2; bank++) {
-            for (int octet : bank(x, bank)) {
-                seen.add((long) octet);
-            }
+        for (int octet : banks(x)) {
+            seen.add((long) octet);
         }
         return seen;
     }

