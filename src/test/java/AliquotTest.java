@@ -1,5 +1,3 @@
-import java.util.List;
-
 /** Promise 3: aliquot. */
 public final class AliquotTest {
     private static final Due DUE = new Due("promise 3");
@@ -190,22 +188,12 @@ public final class AliquotTest {
                         boolean taken = well == OWN || well == TAKEN;
                         boolean wrong = volume < 1 || volume > 10;
                         int want = Due.least(false, none, taken, wrong, false, room < 19);
-                        Lab x = Lab.withRoom(room, AliquotTest::threeSamples);
-                        one(x, sample, well, volume, want == 0 ? 4 : want);
-                        Lab down = Lab.withRoom(room, AliquotTest::threeSamples).down();
-                        one(down, sample, well, volume, -1);
+                        Refusals.due(DUE, () -> Lab.withRoom(room, AliquotTest::threeSamples),
+                            "aliquot(" + sample + ", " + well + ", " + volume + ")",
+                            x -> x.aliquot(sample, well, volume), want == 0 ? 4 : want);
                     }
                 }
             }
-        }
-    }
-
-    private static void one(Lab x, int sample, int well, long volume, int want) {
-        String call = "bytes " + x.count(1) + " aliquot(" + sample + ", " + well + ", " + volume + ")";
-        List<Long> all = Look.all(x);
-        DUE.is(call, x.aliquot(sample, well, volume), want);
-        if (want < 0) {
-            DUE.holds(call + " changes nothing", Look.all(x).equals(all));
         }
     }
 

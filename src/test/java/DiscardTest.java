@@ -1,5 +1,3 @@
-import java.util.List;
-
 /** Promise 5: discard. */
 public final class DiscardTest {
     private static final Due DUE = new Due("promise 5");
@@ -126,18 +124,9 @@ public final class DiscardTest {
         for (int room : rooms) {
             for (int sample : samples) {
                 int want = Due.least(false, sample != 1, false, false, false, room < 10);
-                one(Lab.withRoom(room, DiscardTest::threeSamples), sample, want);
-                one(Lab.withRoom(room, DiscardTest::threeSamples).down(), sample, -1);
+                Refusals.due(DUE, () -> Lab.withRoom(room, DiscardTest::threeSamples),
+                    "discard(" + sample + ")", x -> x.discard(sample), want);
             }
-        }
-    }
-
-    private static void one(Lab x, int sample, int want) {
-        String call = "bytes " + x.count(1) + " discard(" + sample + ")";
-        List<Long> all = Look.all(x);
-        DUE.is(call, x.discard(sample), want);
-        if (want < 0) {
-            DUE.holds(call + " changes nothing", Look.all(x).equals(all));
         }
     }
 }

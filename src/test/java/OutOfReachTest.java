@@ -97,7 +97,8 @@ public final class OutOfReachTest {
     /**
      * Promise 9: a RECORD with a right 165 and a wrong CHECK: 165 is its last byte, nothing is written over a RECORD
      * but 0s, and those on all of a bank whose HEAD goes first. The other way round, CHECK right and 165 not yet there,
-     * and both not yet there, is what PowerCuts asks of each ACT and CompactTest.cutShort of each HEAD.
+     * and both not yet there, is what PowerCuts asks of each ACT and CompactTest.cutShort of each HEAD. An old HEAD
+     * under the 0s of a COMPACT has 165 and a wrong CHECK indeed, but no answer tells: its GENERATION is the lesser.
      */
     private static void wrongChecks() {
         DUE.sentence("promise 9: its CHECK and 165 right (165 right alone)");

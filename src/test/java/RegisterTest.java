@@ -1,5 +1,3 @@
-import java.util.List;
-
 /** Promise 2: register. */
 public final class RegisterTest {
     private static final Due DUE = new Due("promise 2");
@@ -184,19 +182,10 @@ public final class RegisterTest {
                     boolean none = well < 0 || well > 47;
                     boolean wrong = volume < 1 || volume > MAX - 3;
                     int want = Due.least(false, none, well == 0 || well == 2, wrong, false, room < 17);
-                    one(Lab.withRoom(room, RegisterTest::threeWells), well, volume, want == 0 ? 4 : want);
-                    one(Lab.withRoom(room, RegisterTest::threeWells).down(), well, volume, -1);
+                    Refusals.due(DUE, () -> Lab.withRoom(room, RegisterTest::threeWells),
+                        "register(" + well + ", " + volume + ")", x -> x.register(well, volume), want == 0 ? 4 : want);
                 }
             }
-        }
-    }
-
-    private static void one(Lab x, int well, long volume, int want) {
-        String call = "room " + (x.count(1) - 60) + " register(" + well + ", " + volume + ")";
-        List<Long> all = Look.all(x);
-        DUE.is(call, x.register(well, volume), want);
-        if (want < 0) {
-            DUE.holds(call + " changes nothing", Look.all(x).equals(all));
         }
     }
 
