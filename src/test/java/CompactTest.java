@@ -215,7 +215,7 @@ public final class CompactTest {
         }
     }
 
-    /** The other bank is no longer all 0: what COMPACT has written of it, byte by byte, can be told from what was there. */
+    /** The other bank is no longer all 0, so each byte that COMPACT writes there can be told from what was there. */
     private static Lab again(int bytes) {
         Lab x = filled(bytes);
         x.compact();

@@ -1,6 +1,6 @@
 /** A table with two families: 1 has 2 and 3 (DISCARDED), 3 has 4, 4 has 6; 5 came by itself. */
 final class Family {
-    /** Of each SAMPLE: PARENT, WELL, how many have it as PARENT, steps, the first one, VOLUME, VOLUME of all its line. */
+    /** Of each SAMPLE what 0 to 4 of sample() are, its VOLUME, and the VOLUME of its whole line. */
     static final int[][] DUE = {
         {0, 10, 2, 0, 1, 40, 90}, {1, 11, 0, 1, 1, 30, 30}, {1, -1, 1, 1, 1, 0, 20},
         {3, 13, 1, 2, 1, 15, 20}, {0, 14, 0, 0, 5, 9, 9}, {4, 0, 0, 3, 1, 5, 5}

@@ -41,7 +41,7 @@ public final class NewObjectTest {
     }
 
     private static void atFirst() {
-        DUE.sentence("At first bank 0 has GENERATION 1 and no RECORDS, bank 1 is all 0; they were written without counting");
+        DUE.sentence("At first bank 0 has GENERATION 1 and no RECORDS, bank 1 is all 0; written without counting");
         int[] sizes = {64, 65, 2047, 2048};
         for (int bytes : sizes) {
             Lab x = new Lab(bytes);

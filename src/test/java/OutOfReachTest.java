@@ -36,7 +36,7 @@ public final class OutOfReachTest {
         DUE.holds("120 of them are too many", HEAD + 120 * shortest > MOST_BYTES);
     }
 
-    /** Promises 3, 4, 5 and 7: SAMPLE and PARENT have 2 bytes; as there are fewer than 120, the higher one is 0 always. */
+    /** Promises 3, 4, 5 and 7: SAMPLE and PARENT have 2 bytes; there are fewer than 120, so the higher one is 0. */
     private static void greatSampleNumbers() {
         DUE.sentence("promises 3, 4, 5, 7: SAMPLE (2), PARENT (2): a number above 255");
         DUE.holds("fewer than 256", (MOST_BYTES - HEAD) / 17 < 256);
@@ -55,7 +55,7 @@ public final class OutOfReachTest {
         DUE.is("the last GENERATION that can be asked for", x.count(5), MOST_CALLS);
     }
 
-    /** Promise 9: two right HEADs of one GENERATION: COMPACT alone writes HEADs, each one more than the bank in use has. */
+    /** Promise 9: two right HEADs of one GENERATION: COMPACT alone writes them, each one more than the bank in use. */
     private static void generationsAlike() {
         DUE.sentence("promise 9: that of the greater GENERATION (neither is greater)");
         Lab x = new Lab(64);

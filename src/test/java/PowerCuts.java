@@ -1,7 +1,7 @@
 import java.util.function.Supplier;
 import java.util.function.ToIntFunction;
 
-/** The power fails ahead of the first byte of an ACT's RECORD, between any two bytes, behind the last one, and later. */
+/** The power fails ahead of the first byte of an ACT's RECORD, between any two, behind the last one, and later. */
 final class PowerCuts {
     private final Due due;
     private final Supplier<Lab> begun;
@@ -23,7 +23,7 @@ final class PowerCuts {
 
     static void ofRecord(Due due, Supplier<Lab> begun, ToIntFunction<Lab> act, int length) {
         PowerCuts cuts = new PowerCuts(due, begun, act, length);
-        due.sentence("behind n bytes more that are written the power fails: at once, or, with n 0, ahead of the next byte");
+        due.sentence("behind n bytes more the power fails: at once, or, with n 0, ahead of the next byte");
         due.is("bytes of the RECORD", cuts.behind.count(2) - cuts.before.count(2), length);
         for (int n = 0; n <= length; n++) {
             cuts.cutWithin(n);

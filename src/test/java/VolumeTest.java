@@ -56,7 +56,8 @@ public final class VolumeTest {
         Lab x = Family.begun();
         DUE.is("empty: volume(0)", empty.volume(0), -1);
         DUE.is("empty: volume(1)", empty.volume(1), -1);
-        int[] samples = {0, -1, 7, 8, 120, 121, 257, 65537, Integer.MIN_VALUE, Integer.MIN_VALUE + 1, Integer.MAX_VALUE};
+        int[] samples = {0, -1, 7, 8, 120, 121, 257, 65537, Integer.MIN_VALUE, Integer.MIN_VALUE + 1,
+            Integer.MAX_VALUE};
         for (int sample : samples) {
             DUE.is("volume(" + sample + ")", x.volume(sample), -1);
         }
