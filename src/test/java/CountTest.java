@@ -48,7 +48,7 @@ public final class CountTest {
         counts(x, "up", 1, 333, 454, 2, 1, 2, 44, 1, 1, 0);
     }
 
-    /** And for another what, up or down, NONE: the document says it of sample and total, and names 0 to 9 here. */
+    /** And for another what, up or down, NONE: promise 11 says it of itself and of all that follow. */
     private static void counts(Lab x, String when, int... want) {
         for (int what = 0; what < want.length; what++) {
             DUE.is(when + ": count(" + what + ")", x.count(what), want[what]);
